@@ -725,7 +725,9 @@ public final class ShortPrayers {
         for (int i = 1; i <= 9; i++) {
             int things = 0;
             if (i <= dawns) {
-                herald.foresee(now, paper, added, i, paper.day + 1);
+                if (paper.waits(added)) {
+                    herald.foresee(now, paper, added, i, paper.day + 1);
+                }
                 herald.hear(now, paper, i);
                 things = herald.grantedThings;
             }
@@ -1229,28 +1231,23 @@ public final class ShortPrayers {
                 if (!openBracket(depth) || !test(depth + 1) || !pass(")")) {
                     return false;
                 }
-            } else if (!comparison(depth)) {
-                return false;
+            } else {
+                if (!sum(depth)) {
+                    return false;
+                }
+                int how = is("<") ? LESS : is(">") ? MORE : is("=") ? SAME : NONE;
+                if (how == NONE) {
+                    return fail();
+                }
+                advance();
+                if (!sum(depth)) {
+                    return false;
+                }
+                into.add(how * STEP);
             }
             if (nots % 2 == 1) {
                 into.add(NOT * STEP);
             }
-            return true;
-        }
-
-        private boolean comparison(int depth) {
-            if (!sum(depth)) {
-                return false;
-            }
-            int how = is("<") ? LESS : is(">") ? MORE : is("=") ? SAME : NONE;
-            if (how == NONE) {
-                return fail();
-            }
-            advance();
-            if (!sum(depth)) {
-                return false;
-            }
-            into.add(how * STEP);
             return true;
         }
 
@@ -1534,10 +1531,11 @@ public final class ShortPrayers {
         int lowest(Vigil vigil, int dawn) {
             int lowest = NONE;
             int lowestRank = BARRED;
-            for (int i = 0; i < vigil.prayers.size; i++) {
-                if (vigil.waits(i) && isForeseen(i, dawn) && ranks[dawn * Vigil.ROWS + i] < lowestRank) {
+            for (int i = 0; i < vigil.prayers.size && isForeseen(i, dawn); i++) {
+                int rank = ranks[dawn * Vigil.ROWS + i];
+                if (rank < lowestRank && vigil.waits(i)) {
                     lowest = i;
-                    lowestRank = ranks[dawn * Vigil.ROWS + i];
+                    lowestRank = rank;
                 }
             }
             return lowest;
@@ -1782,7 +1780,7 @@ public final class ShortPrayers {
             return shortest;
         }
 
-        /** Shares a set out among the first letters of its rows; never all to one letter: without it all were shorter. */
+        /** Shares a set out among first letters; never all to one of them, without which all were shorter. */
         private void share(int set) {
             totals[set] = NONE;
             for (int a = (set - 1) & set; a >= 0; a = a == 0 ? NONE : (a - 1) & set) {
