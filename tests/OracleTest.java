@@ -172,7 +172,10 @@ public final class OracleTest {
     }
 
     private void village() throws ReflectiveOperationException {
-        switch (random.nextInt(9)) {
+        switch (random.nextInt(10)) {
+            case 9:
+                codes();
+                break;
             case 0:
                 call("word", some(1, 9));
                 break;
@@ -263,6 +266,18 @@ public final class OracleTest {
             default:
                 call("stopped");
                 break;
+        }
+    }
+
+    private void codes() throws ReflectiveOperationException {
+        int most = random.nextBoolean() ? 3 : 20;
+        int asked = 2 + random.nextInt(5);
+        for (int thing = 0; thing < 8; thing++) {
+            call("often", thing, random.nextInt(8) < asked ? random.nextInt(most) : 0);
+        }
+        int letters = letters();
+        for (int what = 0; what <= 8; what++) {
+            call("code", letters, what);
         }
     }
 

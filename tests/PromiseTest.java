@@ -36,6 +36,7 @@ public final class PromiseTest {
         answers();
         hidden();
         seasons();
+        draws();
         images();
         counts();
         Check.close();
@@ -358,6 +359,12 @@ public final class PromiseTest {
     private static void lawFaults() {
         Check.part("term II, laws");
         fault("rank 1001", 5);
+        fault("rank 10000", 5);
+        fault("bars if notz", 8);
+        fault("bars if nota", 8);
+        fault("rank 9a", 6);
+        fault("rank 1 if 1 < 2 and", 19);
+        fault("rank 1 if 1 < 2 or (1 < 2", 25);
         fault("rank 99999999999999999999", 5);
         fault("rank 4294967297", 5);
         fault("rank 1 2", 7);
@@ -445,6 +452,9 @@ public final class PromiseTest {
         fault(repeat("z", 400), 0);
         fault("rank " + repeat("0", 395), -1);
         fault("rank " + repeat("[", 395), 13);
+        ShortPrayers x = new ShortPrayers();
+        due("as many parts", Check.law(x, "rank 1" + repeat("+1", 49)), 0);
+        due("as many parts again", Check.law(x, "rank 1" + repeat("+1", 49)), 1);
         fault("rank 1" + repeat(" ", 394), -1);
     }
 
@@ -542,6 +552,13 @@ public final class PromiseTest {
         due("bars without a test", x.rank(0, 1), 1);
         x.force(Check.law(x, "bars if 1 / 0 = 1"));
         due("bars by a broken test", x.rank(0, 1), 0);
+        x.terms(0, 3);
+        x.pray(0, 1, 5, 1);
+        x.terms(0, 5);
+        x.force(Check.law(x, "rank waits"));
+        due("waits from the day on which it was said", x.rank(1, 0), 3);
+        x.terms(0, 1);
+        due("waits of one said later", x.rank(1, 0), -1);
         x.force(Check.law(x, "bars; rank 7"));
         due("the rank of one that is barred", x.rank(0, 0), 7);
     }
@@ -565,6 +582,9 @@ public final class PromiseTest {
         orderFault("dawn", -1);
         orderFault("dawn times 20 if 1 < 2", -1);
         orderFault("dawn times 21", 11);
+        orderFault("dawn times 1", -1);
+        orderFault("dawn times 200", 11);
+        orderFault("dawn times 020", -1);
         orderFault("dawn times 0", 11);
         orderFault("dawn times", 10);
         orderFault("dawn times done", 11);
@@ -579,6 +599,10 @@ public final class PromiseTest {
         orderFault("pray said for 1 of 1", 10);
         orderFault("pray granted 8 for 1 of 1", 13);
         orderFault("pray said 007 for 1 of 1", -1);
+        orderFault("pray said 70 for 1 of 1", 10);
+        orderFault("pray 0", 6);
+        orderFault("pray 0 for 1", 12);
+        orderFault("pray 0 for 1 ", 13);
         orderFault("pray said [1] for 1 of 1", 10);
         orderFault("pray age for 1 of 1", 5);
         orderFault("pray length for 1 of 1", 5);
@@ -835,6 +859,20 @@ public final class PromiseTest {
         due("order(2)", x.order(2), 3);
         due("order(3)", x.order(3), -1);
         due("order changes nothing", x.count(4), 4);
+        x.force(Check.law(x, "rank 1000 * 10 - length; rank 1000 * [0 - 10] + length if asker = 1"));
+        due("the highest rank", x.rank(0, 0), 9991);
+        int[] far = {1, 0, 2, 3};
+        for (int i = 0; i < 4; i++) {
+            due("order(" + i + ")", x.order(i), far[i]);
+        }
+        x.force(Check.law(x, "rank 9 * 1000 + 999; rank 9 * 1000 + 998 if asker = 1; rank 1000 * 10 if thing = 3"));
+        due("order(0)", x.order(0), 1);
+        due("order(1)", x.order(1), 0);
+        due("order(3), alike as nearest", x.order(3), 3);
+        x.force(Check.law(x, "rank 0 - 9 * 1000 - 998; rank 0 - 9 * 1000 - 999 if thing = 2; rank 0 - 1000 * 10 if thing = 3"));
+        due("order(0)", x.order(0), 2);
+        due("order(1)", x.order(1), 3);
+        due("order(2)", x.order(2), 0);
         for (int i = 4; i < 16; i++) {
             x.pray(0, 5, 50, 1);
         }
@@ -984,6 +1022,13 @@ public final class PromiseTest {
         due("alike ones: the lower thing is shorter", x.code(6, 0), 35);
         due("of thing 1", x.code(6, 2), 2);
         due("of thing 4", x.code(6, 5), 3);
+        due("three letters, two are enough", x.code(7, 0), 21);
+        due("the shortest of three", x.code(7, 2), 1);
+        due("the second of three", x.code(7, 5), 2);
+        x.often(6, 1);
+        due("each of three letters", x.code(7, 0), 7 + 14 + 3);
+        due("the third of three", x.code(7, 7), 3);
+        x.often(6, 0);
         due("one letter", x.code(1, 0), -1);
         due("no letter", x.code(0, 0), -1);
         due("letters that are not there", x.code(9, 0), -1);
@@ -993,6 +1038,7 @@ public final class PromiseTest {
         due("what -1", x.code(3, -1), -1);
         x.word(4);
         due("four letters", x.code(15, 0), -1);
+        letterOrders();
         for (int thing = 0; thing < 6; thing++) {
             x.often(thing, 1);
         }
@@ -1011,6 +1057,26 @@ public final class PromiseTest {
         due("thing 7", x.code(17, 8), 3);
     }
 
+    private static void letterOrders() {
+        int[][] lengths = {{1, 1, 9}, {1, 9, 1}, {9, 1, 1}};
+        for (int[] each : lengths) {
+            ShortPrayers x = new ShortPrayers();
+            for (int length : each) {
+                x.word(length);
+            }
+            x.often(2, 3);
+            due("one thing", x.code(7, 0), 3);
+            due("one thing", x.code(7, 3), 1);
+            x.often(5, 4);
+            due("the dear letter is not taken", x.code(7, 0), 7);
+            x.often(0, 4);
+            due("deeper by the cheap ones", x.code(7, 0), 4 + 8 + 6);
+            due("the first as a row", x.code(7, 1), 1);
+            due("thing 2", x.code(7, 3), 2);
+            due("thing 5", x.code(7, 6), 2);
+        }
+    }
+
     private static void bundles() {
         Check.part("promises 29, 30");
         ShortPrayers x = new ShortPrayers();
@@ -1024,6 +1090,8 @@ public final class PromiseTest {
         Check.taken(x, "bundle", x.bundle(2, 5), 1);
         due("cover", x.cover(3, 0), 10);
         due("cover", x.cover(3, 1), 3);
+        due("cover(1)", x.cover(1, 0), 5);
+        due("cover(1)", x.cover(1, 1), 1);
         x.bundle(3, 10);
         due("the fewest", x.cover(3, 1), 4);
         x.bundle(3, 10);
@@ -1119,6 +1187,11 @@ public final class PromiseTest {
         ShortPrayers y = village();
         y.force(Check.law(y, "bars if length > 40 or length < 20"));
         due("barred if too long", y.longest(0, 0, 1), 40);
+        y.force(Check.law(y, "bars if length > 1"));
+        due("length 1", y.longest(0, 0, 1), 1);
+        y.terms(0, 7);
+        y.force(Check.law(y, "bars if day = 8 and waits = 1 and length > 12"));
+        due("by the new day", y.longest(0, 0, 1), 12);
         y.force(Check.law(y, "bars"));
         due("none", y.longest(0, 0, 1), -1);
     }
@@ -1134,6 +1207,10 @@ public final class PromiseTest {
         due("eight dawns", x.keep(1, 8, 1, 1, 5), 8);
         due("nine dawns", x.keep(1, 9, 1, 1, 5), -1);
         due("by the same thing", x.keep(1, 3, 1, 0, 5), 1);
+        due("length 1", x.keep(1, 1, 1, 0, 1), 1);
+        x.force(Check.law(x, "rank length + voices * 4"));
+        due("voices 1", x.keep(1, 1, 1, 0, 8), 1);
+        x.force(-1);
         due("too long", x.keep(1, 3, 1, 0, 9), -1);
         due("n 0", x.keep(1, 0, 0, 1, 5), -1);
         due("n 21", x.keep(1, 21, 0, 0, 5), -1);
@@ -1223,6 +1300,20 @@ public final class PromiseTest {
             x.pray(0, 3, 99, 1);
         }
         due("room aside", x.hidden(-1), 18);
+        ShortPrayers y = village();
+        y.pray(0, 2, 10, 1);
+        y.answer(1, 2, 0);
+        y.force(Check.law(y, "rank length + voices"));
+        due("voices 1", y.hidden(-1), 126);
+        y.forget();
+        y.terms(0, 4);
+        y.force(Check.law(y, "bars if day < 13; bars if asker = 1; bars if waits < 9"));
+        y.answer(9, 2, 0);
+        due("at the ninth dawn", y.hidden(-1), 7 * 9);
+        y.answer(9, 7, 1);
+        due("at the ninth dawn", y.hidden(-1), 9);
+        y.answer(8, 7, 1);
+        due("not at the eighth", y.hidden(-1), 0);
         x.terms(0, 999);
         due("no dawn comes", x.hidden(-1), 0);
         x.forget();
@@ -1292,6 +1383,44 @@ public final class PromiseTest {
         due("images don't keep it", x.drawn(0, 3), waits);
         x.person(5);
         due("one who came later", x.drawn(1, 0), 0);
+    }
+
+    /** The DRAWS once more: with EARS 4 and HOLDS 0 all that is said is GRANTED on its day. */
+    private static void draws() {
+        Check.part("term IV, draws");
+        int[] seeds = {0, 1, 99, 500000, 999999, 1000000};
+        for (int seed : seeds) {
+            ShortPrayers x = village();
+            x.person(9);
+            x.terms(1, 4);
+            x.terms(2, 0);
+            x.force(Check.law(x, "breath 20; bars if voices > 1"));
+            int[] said = new int[3];
+            long s = seed;
+            for (int day = 0; day < 12; day++) {
+                s = (s * 1103 + 12345) % 1000003;
+                int person = (int) (s % 3);
+                s = (s * 1103 + 12345) % 1000003;
+                s = (s * 1103 + 12345) % 1000003;
+                said[person] += s % 40 + 1 <= 20 ? 1 : 0;
+            }
+            due("season " + seed, x.season(seed, 12), said[0] + said[1] + said[2]);
+            for (int person = 0; person < 3; person++) {
+                due("said", x.drawn(person, 0), said[person]);
+                due("granted", x.drawn(person, 1), said[person]);
+                due("denied", x.drawn(person, 2), 0);
+                due("waits", x.drawn(person, 3), 0);
+            }
+            // a THING is DENIED behind itself
+            x.terms(2, 30);
+            x.force(-1);
+            x.clash(0, 1, 1);
+            int granted = x.season(seed, 12);
+            int denied = x.drawn(0, 2) + x.drawn(1, 2) + x.drawn(2, 2);
+            due("granted and denied", granted + denied, 12);
+            due("as many as there are kinds", granted <= 8 ? 1 : 0, 1);
+            due("granted", x.drawn(0, 1) + x.drawn(1, 1) + x.drawn(2, 1), granted);
+        }
     }
 
     private static void images() {
@@ -1369,6 +1498,21 @@ public final class PromiseTest {
         due("law of its own", Check.law(x, "rank 5"), 1);
         x.back(1);
         due("the law as it was then", x.rank(1, 0), 9);
+        // LAW 0 itself may be another one
+        ShortPrayers y = village();
+        y.pray(0, 0, 5, 1);
+        y.image(0);
+        y.force(Check.law(y, "rank 11; breath 11"));
+        y.image(1);
+        y.back(0);
+        y.force(Check.law(y, "rank 22"));
+        due("rank", y.rank(0, 0), 22);
+        y.back(1);
+        due("rank", y.rank(0, 0), 11);
+        due("breath", y.breath(0, 1), 11);
+        y.back(0);
+        due("rank", y.rank(0, 0), 5);
+        due("count(7)", y.count(7), 0);
         // stopped() is not kept either
         x.orders();
         Check.orders(x, "pray 9 for 0 of 1");
