@@ -22,7 +22,7 @@ public final class OracleTest {
 
     public static void main(String[] args) throws ReflectiveOperationException {
         int from = args.length > 0 ? Integer.parseInt(args[0]) : 0;
-        int runs = args.length > 1 ? Integer.parseInt(args[1]) : 400;
+        int runs = args.length > 1 ? Integer.parseInt(args[1]) : 1500;
         int wrong = 0;
         for (int seed = from; seed < from + runs && wrong < 5; seed++) {
             OracleTest test = new OracleTest(seed);
@@ -181,7 +181,8 @@ public final class OracleTest {
                 break;
             case 1:
             case 2:
-                call("rule", some(0, 7), part(), random.nextInt(3) == 0 ? -1 : part(), random.nextInt(3) == 0 ? part() : -1);
+                call("rule", some(0, 7), part(), random.nextInt(3) == 0 ? -1 : part(),
+                    random.nextInt(3) == 0 ? part() : -1);
                 break;
             case 3:
                 call("clash", some(0, 7), some(0, 7), some(0, 1));
@@ -211,7 +212,8 @@ public final class OracleTest {
     private void terms() throws ReflectiveOperationException {
         switch (random.nextInt(5)) {
             case 0:
-                call("terms", 0, random.nextInt(3) == 0 ? 990 + random.nextInt(11) : some(0, random.nextBoolean() ? 30 : 999));
+                int far = random.nextBoolean() ? 30 : 999;
+                call("terms", 0, random.nextInt(3) == 0 ? 990 + random.nextInt(11) : some(0, far));
                 break;
             case 1:
                 call("terms", 1, some(1, 4));
@@ -302,7 +304,8 @@ public final class OracleTest {
             case 6:
             case 7:
             case 8:
-                call("keep", prayer(), some(1, random.nextBoolean() ? 4 : 20), person(), some(0, 7), some(1, random.nextBoolean() ? 12 : 99));
+                call("keep", prayer(), some(1, random.nextBoolean() ? 4 : 20), person(), some(0, 7),
+                    some(1, random.nextBoolean() ? 12 : 99));
                 break;
             case 9:
                 call("hidden", random.nextBoolean() ? -1 : some(0, 500));

@@ -47,7 +47,7 @@ public final class PromiseTest {
     }
 
     private static void refused(ShortPrayers x, String call, int got, int by) {
-        // count() changes nothing: that it counts one more is asked by repeating in counts()
+        // that it is counted as well is asked in counts()
         due(call, got, by);
         due(call + " status()", x.status(), by);
     }
@@ -458,7 +458,7 @@ public final class PromiseTest {
         fault("rank 1" + repeat(" ", 394), -1);
     }
 
-    /** The RANK that a LAW tells for a PRAYER of person 1 (70) for thing 4, LENGTH 12, VOICES 3, said on day 0, on day 5. */
+    /** The RANK by a LAW on day 5 of a PRAYER of person 1 (70) for thing 4, LENGTH 12, VOICES 3, said on day 0. */
     private static void ranked(String text, int want) {
         ShortPrayers x = village();
         x.pray(1, 4, 12, 3);

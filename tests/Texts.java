@@ -51,8 +51,8 @@ final class Texts {
 
     private void nest(int deep) {
         int round = random.nextInt(deep + 1);
-        out.append(ordering ? "dawn if " : "bars if ").append("(".repeat(round)).append("[".repeat(deep - round)).append("1")
-            .append("]".repeat(deep - round)).append("<2").append(")".repeat(round));
+        out.append(ordering ? "dawn if " : "bars if ");
+        out.append("(".repeat(round)).append("[".repeat(deep - round)).append("1").append("]".repeat(deep - round)).append("<2").append(")".repeat(round));
     }
 
     private void clauses() {
