@@ -929,7 +929,7 @@ public final class Oracle {
         if (now.people.isEmpty()) {
             return refuse(-3);
         }
-        season = new int[6][4];
+        season = new int[now.people.size()][4];
         State s = now.copy();
         long draw = seed;
         int granted = 0;
@@ -965,7 +965,7 @@ public final class Oracle {
     }
 
     public int drawn(int person, int what) {
-        return season == null || !in(person, 0, now.people.size() - 1) || !in(what, 0, 3) ? NONE : season[person][what];
+        return season == null || !in(person, 0, season.length - 1) || !in(what, 0, 3) ? NONE : season[person][what];
     }
 
     public int image(int k) {

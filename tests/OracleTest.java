@@ -325,8 +325,11 @@ public final class OracleTest {
         if (random.nextBoolean()) {
             call("season", some(0, 1000000), some(1, 60));
         }
+        if (random.nextInt(4) == 0) {
+            call("person", some(0, 99));
+        }
         call("drawn", person(), some(0, 3));
-        call("drawn", person(), some(0, 3));
+        call("drawn", random.nextBoolean() ? person() : some(0, 5), some(0, 3));
     }
 
     private void row() throws ReflectiveOperationException {

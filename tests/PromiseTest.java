@@ -1382,7 +1382,36 @@ public final class PromiseTest {
         due("images don't keep it", x.drawn(0, 0), 14);
         due("images don't keep it", x.drawn(0, 3), waits);
         x.person(5);
-        due("one who came later", x.drawn(1, 0), 0);
+        for (int what = 0; what <= 3; what++) {
+            due("one who came later", x.drawn(1, what), -1);
+        }
+        x.image(1);
+        x.season(0, 0);
+        due("one who came behind the latest that was not refused", x.drawn(1, 0), -1);
+        // s: 12345, which is odd: the second one says it
+        due("season", x.season(0, 1), 1);
+        due("one who came ahead of the latest", x.drawn(1, 0), 1);
+        due("granted", x.drawn(1, 1), 1);
+        x.back(0);
+        due("people by then", x.count(2), 1);
+        due("one who was there in it", x.drawn(1, 0), 1);
+        due("one who was there in it", x.drawn(1, 3), 0);
+        due("what 4", x.drawn(1, 4), -1);
+        due("none", x.drawn(2, 0), -1);
+        due("season", x.season(0, 1), 1);
+        x.back(1);
+        due("the latest has one of both", x.drawn(1, 0), -1);
+        ShortPrayers six = village();
+        for (int i = 0; i < 6; i++) {
+            six.person(i);
+        }
+        six.season(1, 60);
+        int said = 0;
+        for (int person = 0; person < 6; person++) {
+            said += six.drawn(person, 0);
+        }
+        due("all six", said, 16);
+        due("a seventh", six.drawn(6, 0), -1);
     }
 
     /** The DRAWS once more: with EARS 4 and HOLDS 0 all that is said is GRANTED on its day. */

@@ -515,7 +515,7 @@ public final class ShortPrayers {
         if (now.people.size == 0) {
             return refuse(CANT_BE);
         }
-        latest.begin(seed);
+        latest.begin(seed, now.people.size);
         paper.takeFrom(now.vigil);
         int granted = 0;
         for (int i = 0; i < n; i++) {
@@ -532,7 +532,7 @@ public final class ShortPrayers {
     }
 
     public int drawn(int person, int what) {
-        return now.people.has(person) ? latest.tally(person, what) : NONE;
+        return latest.tally(person, what);
     }
 
     public int image(int k) {
@@ -1823,7 +1823,7 @@ public final class ShortPrayers {
         }
     }
 
-    /** The latest SEASON: its DRAWS, and what is told of it. */
+    /** The latest SEASON: its DRAWS, and what is told of those who were PEOPLE in it, whoever is there by now. */
     private static final class Season {
         private static final int SAID_IN_IT = 0;
         private static final int GRANTED_IN_IT = 1;
@@ -1833,10 +1833,10 @@ public final class ShortPrayers {
         private final Rows tallies = new Rows(MOST_PEOPLE, 4);
         private int seed;
 
-        void begin(int from) {
+        void begin(int from, int people) {
             seed = from;
             tallies.cut(0);
-            for (int person = 0; person < MOST_PEOPLE; person++) {
+            for (int person = 0; person < people; person++) {
                 tallies.open();
                 for (int what = SAID_IN_IT; what <= STILL_WAITS; what++) {
                     tallies.set(person, what, 0);
