@@ -869,6 +869,10 @@ public final class PromiseTest {
         due("order(0)", x.order(0), 1);
         due("order(1)", x.order(1), 0);
         due("order(3), alike as nearest", x.order(3), 3);
+        x.force(Check.law(x, "rank 9 * 1000 + 999; rank 1000 * 10 if thing = " + x.at(0, 1)));
+        for (int i = 0; i < 4; i++) {
+            due("order(" + i + "), all alike as nearest", x.order(i), i);
+        }
         x.force(Check.law(x, "rank 0 - 9 * 1000 - 998; rank 0 - 9 * 1000 - 999 if thing = 2; rank 0 - 1000 * 10 if thing = 3"));
         due("order(0)", x.order(0), 2);
         due("order(1)", x.order(1), 3);
@@ -1114,6 +1118,15 @@ public final class PromiseTest {
         due("cover", x.cover(127, 1), 4 + 32 + 64 + 128 + 256 + 512);
         due("cover", x.cover(255, 1), 16);
         due("count(5)", x.count(5), 10);
+        ShortPrayers y = new ShortPrayers();
+        y.bundle(255, 9);
+        for (int thing = 0; thing < 8; thing++) {
+            y.bundle(1 << thing, 1);
+        }
+        due("as many as there are things", y.cover(255, 0), 8);
+        due("as many as there are things", y.cover(255, 1), 510);
+        y.bundle(128, 1);
+        due("the lowest of them", y.cover(255, 1), 510);
     }
 
     private static void when() {
