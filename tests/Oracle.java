@@ -949,17 +949,10 @@ public final class Oracle {
             if (s.terms[0] == 999) {
                 break;
             }
-            List<Prayer> waiting = new ArrayList<>(s.prayers);
-            waiting.removeIf(p -> p.state != 0);
             granted += dawnOn(s).size();
-            for (Prayer p : waiting) {
-                if (p.state != 0) {
-                    season[p.asker][p.state]++;
-                }
-            }
         }
         for (Prayer p : s.prayers) {
-            season[p.asker][3] += p.state == 0 ? 1 : 0;
+            season[p.asker][p.state == 0 ? 3 : p.state]++;
         }
         return fine(granted);
     }

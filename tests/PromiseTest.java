@@ -36,6 +36,7 @@ public final class PromiseTest {
         answers();
         hidden();
         seasons();
+        standings();
         draws();
         images();
         counts();
@@ -1366,7 +1367,7 @@ public final class PromiseTest {
         due("on paper", x.count(8), 0);
         refused(x, "refused", x.season(0, 0), -1);
         due("the latest one stays", x.drawn(0, 1), 1);
-        // what was said ahead counts where it WAITS, is GRANTED in it
+        // what was said ahead counts where it WAITS, is GRANTED in it, was GRANTED ahead of it
         x.pray(0, 7, 1, 1);
         x.pray(0, 6, 98, 1);
         due("season", x.season(0, 1), 1);
@@ -1374,13 +1375,17 @@ public final class PromiseTest {
         due("granted", x.drawn(0, 1), 1);
         due("waits", x.drawn(0, 3), 2);
         x.dawn();
+        due("a later dawn does not change it", x.drawn(0, 1), 1);
+        due("a later dawn does not change it", x.drawn(0, 3), 2);
         due("season", x.season(0, 1), 1);
-        due("granted in it", x.drawn(0, 1), 1);
+        due("said", x.drawn(0, 0), 1);
+        due("granted ahead of it, in it", x.drawn(0, 1), 2);
         due("waits", x.drawn(0, 3), 1);
         // the last day: it is said, no DAWN comes
         x.terms(0, 999);
         due("season", x.season(0, 60), 0);
         due("said", x.drawn(0, 0), 1);
+        due("granted ahead of it", x.drawn(0, 1), 1);
         due("waits", x.drawn(0, 3), 2);
         x.force(Check.law(x, "breath 9"));
         due("season", x.season(0, 60), 0);
@@ -1425,6 +1430,71 @@ public final class PromiseTest {
         }
         due("all six", said, 16);
         due("a seventh", six.drawn(6, 0), -1);
+    }
+
+    private static void standings() {
+        Check.part("promise 38, how PRAYERS stand");
+        ShortPrayers x = new ShortPrayers();
+        x.person(0);
+        x.person(0);
+        x.terms(1, 4);
+        x.pray(0, 5, 1, 1);
+        x.pray(1, 5, 2, 1);
+        x.pray(1, 5, 3, 1);
+        x.pray(1, 2, 4, 1);
+        due("dawn", x.dawn(), 2);
+        // s: 12345, the second one; THING 1; LENGTH 10
+        due("season", x.season(0, 1), 1);
+        due("said", x.drawn(0, 0), 0);
+        due("granted", x.drawn(0, 1), 1);
+        due("denied", x.drawn(0, 2), 0);
+        due("waits", x.drawn(0, 3), 0);
+        due("said", x.drawn(1, 0), 1);
+        due("granted", x.drawn(1, 1), 2);
+        due("denied", x.drawn(1, 2), 2);
+        due("waits", x.drawn(1, 3), 0);
+        // one that said nothing in it is DENIED in it
+        x.pray(0, 2, 9, 1);
+        due("season", x.season(0, 1), 1);
+        due("said", x.drawn(0, 0), 0);
+        due("granted", x.drawn(0, 1), 1);
+        due("denied in it", x.drawn(0, 2), 1);
+        due("denied", x.drawn(1, 2), 2);
+        x.undo();
+        x.undo();
+        due("what is undone does not change it", x.drawn(1, 2), 2);
+        due("season", x.season(0, 1), 2);
+        due("all but the drawn one are heard in it", x.drawn(0, 1), 1);
+        due("all but the drawn one are heard in it", x.drawn(1, 1), 1);
+        due("all but the drawn one are heard in it", x.drawn(1, 2), 2);
+        due("all but the drawn one are heard in it", x.drawn(1, 3), 1);
+        x.dawn();
+        due("sweep", x.sweep(), 4);
+        due("what went does not change it", x.drawn(1, 2), 2);
+        due("season", x.season(0, 1), 1);
+        due("what went is not there", x.drawn(0, 1), 0);
+        due("what went is not there", x.drawn(1, 1), 1);
+        due("what went is not there", x.drawn(1, 2), 0);
+        // a row's counts as any other
+        Check.feed(x, 0, 7, 1);
+        due("row", x.row(), 1);
+        due("season", x.season(0, 1), 2);
+        due("a row's", x.drawn(0, 0), 0);
+        due("a row's", x.drawn(0, 1), 1);
+        // on paper there is no room for more
+        ShortPrayers full = new ShortPrayers();
+        full.person(0);
+        full.terms(1, 4);
+        for (int i = 0; i < 16; i++) {
+            full.pray(0, 0, 1, 1);
+            full.dawn();
+        }
+        due("none yet", full.drawn(0, 1), -1);
+        due("season", full.season(7, 60), 0);
+        due("said", full.drawn(0, 0), 0);
+        due("granted", full.drawn(0, 1), 6);
+        due("denied", full.drawn(0, 2), 10);
+        due("waits", full.drawn(0, 3), 0);
     }
 
     /** The DRAWS once more: with EARS 4 and HOLDS 0 all that is said is GRANTED on its day. */

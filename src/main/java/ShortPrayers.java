@@ -525,9 +525,8 @@ public final class ShortPrayers {
             }
             herald.foreseeAll(now, paper, 1);
             granted += herald.hear(now, paper, 1);
-            latest.noteDawn(paper, herald.heard);
         }
-        latest.noteWaiting(paper);
+        latest.noteStanding(paper);
         return fine(granted);
     }
 
@@ -1825,9 +1824,8 @@ public final class ShortPrayers {
 
     /** The latest SEASON: its DRAWS, and what is told of those who were PEOPLE in it, whoever is there by now. */
     private static final class Season {
+        // the columns of a tally; those of GRANTED and DENIED are told by these STATES
         private static final int SAID_IN_IT = 0;
-        private static final int GRANTED_IN_IT = 1;
-        private static final int DENIED_IN_IT = 2;
         private static final int STILL_WAITS = 3;
 
         private final Rows tallies = new Rows(MOST_PEOPLE, 4);
@@ -1853,20 +1851,11 @@ public final class ShortPrayers {
             add(person, SAID_IN_IT);
         }
 
-        void noteDawn(Vigil vigil, int heard) {
+        /** At its end: how all PRAYERS stand, those too that were said or heard ahead of it. */
+        void noteStanding(Vigil vigil) {
             for (int i = 0; i < vigil.prayers.size; i++) {
-                if ((heard >> i & 1) == 1) {
-                    boolean granted = vigil.prayers.get(i, STATE) == GRANTED;
-                    add(vigil.prayers.get(i, ASKER), granted ? GRANTED_IN_IT : DENIED_IN_IT);
-                }
-            }
-        }
-
-        void noteWaiting(Vigil vigil) {
-            for (int i = 0; i < vigil.prayers.size; i++) {
-                if (vigil.waits(i)) {
-                    add(vigil.prayers.get(i, ASKER), STILL_WAITS);
-                }
+                int state = vigil.prayers.get(i, STATE);
+                add(vigil.prayers.get(i, ASKER), state == WAITS ? STILL_WAITS : state);
             }
         }
 
