@@ -12,9 +12,13 @@ final class Check {
 
     static void due(String call, long got, long want) {
         if (got != want) {
-            wrong++;
-            System.out.println(part + ": " + call + " answered " + got + ", due is " + want);
+            wrong(call + " answered " + got + ", due is " + want);
         }
+    }
+
+    static void wrong(String what) {
+        wrong++;
+        System.out.println(part + ": " + what);
     }
 
     /** A call that is REFUSED by a number: its answer, what status() says, and that count() has one more. */
