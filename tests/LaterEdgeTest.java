@@ -430,6 +430,9 @@ public final class LaterEdgeTest {
         due("5 DAYS", x.season(0, 5), 4);
         due("the fifth", x.drawn(0, 3), 1);
         due("6 DAYS", x.season(0, 6), 6);
+        x.force(Check.law(x, "bars if day < 60"));
+        due("59 DAYS", x.season(0, 59), 0);
+        due("60 DAYS", x.season(0, 60), 4);
         x.force(Check.law(x, "breath 99; breath 0 if day > 2"));
         due("the BREATH of each DAY", x.season(0, 60), 3);
         due("the BREATH of each DAY", x.drawn(0, 0), 3);
@@ -597,5 +600,12 @@ public final class LaterEdgeTest {
             due("not REFUSED, text " + i, x.status(), 0);
         }
         due("ahead of any", new ShortPrayers().status(), 0);
+        // an object is used for 512 calls
+        ShortPrayers old = new ShortPrayers();
+        for (int i = 0; i < 510; i++) {
+            old.word(0);
+        }
+        due("the 511th call", old.count(10), 510);
+        due("the 512th call", old.status(), -1);
     }
 }

@@ -1699,7 +1699,7 @@ public final class ShortPrayers {
             if (!takeLetters(book, letters) || !takeAsked(book)) {
                 return false;
             }
-            for (int set = 0; set < 1 << askedCount; set++) {
+            for (int set = 0; set < 1 << askedCount && set < SETS; set++) {
                 weights[set] = weightOf(book, set);
                 totals[set] = 0;
                 clearLengths(set);
@@ -1719,7 +1719,7 @@ public final class ShortPrayers {
         }
 
         int lengthFor(int thing) {
-            for (int i = 0; i < askedCount && i < MOST_ASKED; i++) {
+            for (int i = 0; i < askedCount && askedCount <= MOST_ASKED; i++) {
                 if (asked[i] == thing) {
                     return lengths[((1 << askedCount) - 1) * MOST_ASKED + i];
                 }
@@ -1793,7 +1793,14 @@ public final class ShortPrayers {
             }
         }
 
+        private static boolean isSet(int set) {
+            return within(set, 0, SETS - 1);
+        }
+
         private void tryShares(int set, int a, int b, int c) {
+            if (!isSet(set) || !isSet(a) || !isSet(b) || !isSet(c)) {
+                return;
+            }
             int total = totals[a] + letterLengths[0] * weights[a]
                 + totals[b] + letterLengths[1] * weights[b]
                 + totals[c] + (c == 0 ? 0 : letterLengths[2] * weights[c]);
