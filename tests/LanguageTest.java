@@ -46,6 +46,7 @@ public final class LanguageTest {
             wrong("a sign that is not plain");
         }
         methodLengths(plain);
+        loops(plain);
         face();
         classes();
         System.out.println(wrong == 0 ? "the language is kept" : wrong + " rules broken");
@@ -80,6 +81,28 @@ public final class LanguageTest {
                     break;
                 }
             }
+        }
+    }
+
+    /** A counter goes by one step of a told length against a bound: so the end can be seen (rule 9). */
+    private static void loops(String plain) {
+        Pattern counted = Pattern.compile("for \\(int (\\w+) = [^;]+; [^;]*\\b\\1 (<=?|>=?) [^;]+; \\1(\\+\\+|--| [+-]= \\d+)\\) \\{");
+        String[] lines = plain.split("\n");
+        int found = 0;
+        for (int i = 0; i < lines.length; i++) {
+            if (Pattern.compile("\\bfor\\b").matcher(lines[i]).find()) {
+                found++;
+                if (!counted.matcher(lines[i].strip()).matches()) {
+                    wrong("a loop without a counter at line " + (i + 1));
+                }
+            }
+            boolean counts = i + 2 < lines.length && Pattern.compile("\\w+\\+\\+;").matcher(lines[i + 1] + lines[i + 2]).find();
+            if (lines[i].contains("while") && !counts) {
+                wrong("a loop that does not count at line " + (i + 1));
+            }
+        }
+        if (found < 50) {
+            wrong("no more than " + found + " loops were seen");
         }
     }
 

@@ -1782,15 +1782,18 @@ public final class ShortPrayers {
         /** Shares a set out among first letters; never all to one of them, without which all were shorter. */
         private void share(int set) {
             totals[set] = NONE;
-            for (int a = (set - 1) & set; a >= 0; a = a == 0 ? NONE : (a - 1) & set) {
-                int rest = set & ~a;
-                for (int b = rest; b >= 0; b = b == 0 ? NONE : (b - 1) & rest) {
-                    int c = rest & ~b;
-                    if (b != set && c != set && (c == 0 || letterCount == 3)) {
+            for (int a = 0; a < set; a++) {
+                for (int b = 0; b < set && isPartOf(a, set); b++) {
+                    int c = set & ~a & ~b;
+                    if (isPartOf(b, set & ~a) && c != set && (c == 0 || letterCount == 3)) {
                         tryShares(set, a, b, c);
                     }
                 }
             }
+        }
+
+        private static boolean isPartOf(int set, int all) {
+            return (set & ~all) == 0;
         }
 
         private static boolean isSet(int set) {
